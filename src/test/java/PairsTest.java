@@ -86,6 +86,12 @@ public final class PairsTest {
         SeesawPairs x = Check.told("heap 0 20;heap 1 20;bridge 0 1 5;one plain 9 0 0;one plain 9 1 1;");
         Check.due("21 on bank 1", x.cross(0, 0, 1, 1, 0), -3);
         Check.due("21 on bank 0", x.cross(0, 0, 1, 0, 1), -3);
+        x.heap(1, 5);
+        Check.due("21 on bank 0 alone", x.cross(0, 0, 1, 0, 1), -3);
+        x.heap(1, 20);
+        x.heap(0, 5);
+        Check.due("21 on bank 1 alone", x.cross(0, 0, 1, 1, 0), -3);
+        x.heap(0, 20);
         Check.due("20 on both", x.cross(0, 0, 1, 1, 1), 1);
         x.cross(0, 1, 0, 0, 0);
         x.sheet(0, 0, 36);

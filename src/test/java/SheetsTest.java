@@ -114,6 +114,18 @@ public final class SheetsTest {
         Check.due("there and back", x.read(1, 0, 0, 2), 2);
         x.sheet(1, 0, 6);
         Check.due("cells are 0 anew: one and himself", x.read(1, 0, 0, 1), -20);
+        x.lay(1, 0, 1);
+        x.sheet(1, 0, 6);
+        x.lay(1, 2, 1);
+        Check.due("cell 0 is 0 anew", x.read(1, 0, 0, 1), 1);
+        x.sheet(2, 0, 3);
+        x.lay(2, 1, 1);
+        x.lay(2, 0, 1);
+        x.sheet(1, 0, 40);
+        x.sheet(3, 0, 40);
+        Check.due("cell 0 of another sheet stays", x.read(2, 0, 0, 1), -20);
+        x.lay(2, 0, 0);
+        Check.due("cell 1 of another sheet stays", x.read(2, 0, 0, 1), 1);
     }
 
     private static void readings() {

@@ -83,6 +83,12 @@ public final class TextTest {
         Check.refused("banks 002;", 1, 6);
         Check.refused("123", 1, 0);
         Check.refused("banks 5 $", 3, 6);
+        Check.refused("z 2;", 2, 0);
+        Check.refused("a", 2, 0);
+        Check.refused("{", 1, 0);
+        Check.refused("`", 1, 0);
+        Check.refused("/", 1, 0);
+        Check.refused(":", 1, 0);
         Check.refused("bank 2;", 2, 0);
         Check.refused("bankss 2;", 2, 0);
         Check.refused(" ;", 2, 1);
@@ -105,6 +111,7 @@ public final class TextTest {
         Check.refused("heap 0 00;", 3, 7);
         Check.refused("heap 0 21;", 3, 7);
         Check.refused("bridge 4 0 1;", 3, 7);
+        Check.refused("bridge 0 4 1;", 3, 9);
         Check.refused("bridge 0 1 21;", 3, 11);
         Check.refused("one plain 0 0 0;", 3, 10);
         Check.refused("one plain 1 4 0;", 3, 12);
