@@ -1,4 +1,5 @@
 import java.nio.charset.StandardCharsets;
+import java.util.function.IntUnaryOperator;
 
 /** What the tests share: a count of wrong answers, and objects that were told a text. */
 final class Check {
@@ -17,6 +18,31 @@ final class Check {
         if (got != want) {
             wrong++;
             System.out.println(call + " answered " + got + ", due is " + want);
+        }
+    }
+
+    static int wrongAnswers() {
+        return wrong;
+    }
+
+    static int askedAnswers() {
+        return asked;
+    }
+
+    /** BAD outside of least to most, near and far, also where the lowest bits are those of a number inside; not BAD at both ends. */
+    static void bounds(String call, int least, int most, IntUnaryOperator answer) {
+        badOutside(call, least, most, answer);
+        due(call + " is taken at " + least, answer.applyAsInt(least) == SeesawPairs.BAD ? 0 : 1, 1);
+        due(call + " is taken at " + most, answer.applyAsInt(most) == SeesawPairs.BAD ? 0 : 1, 1);
+    }
+
+    static void badOutside(String call, int least, int most, IntUnaryOperator answer) {
+        int low = Integer.MIN_VALUE;
+        int high = Integer.MAX_VALUE;
+        int[] values = {least - 1, most + 1, least - 2, most + 2, low, low + 1, low + 9, low + 10, low + least, high, high - 1,
+            high - 9, high - 10, 256 + least, least - 256, 65536 + least, least - 65536, 1 << 30};
+        for (int v : values) {
+            if (v < least || v > most) due(call + " at " + v, answer.applyAsInt(v), SeesawPairs.BAD);
         }
     }
 
