@@ -696,7 +696,7 @@ public final class SeesawPairs {
 
         /** -1 behind the last byte. */
         int byteAt(int i) {
-            return i >= 0 && i < size ? at(bytes, i) : -1;
+            return i >= 0 && i < size && i < bytes.length ? bytes[i] : -1;
         }
     }
 

@@ -22,6 +22,10 @@ public final class BoundsDaysTest {
             Check.due("also one that can not cross", x.tell(0, 1, 0), 3);
             Check.due("it is the third", x.judge(), 2);
             Check.due("nobody went", x.rule(4), 0);
+            x = Check.told("banks 4;bridge 0 1 9;bridge 1 2 9;bridge 2 3 9;bridge 3 0 9;one plain 5 0 0;one plain 5 1 0;one plain 5 2 0;one plain 5 3 0;");
+            int[] others = {1, 2, 3, 1, 2, 3, 1, 2};
+            for (int i = 0; i < 8; i++) Check.due("by bridge " + i % 4, x.tell(i % 4, 0, others[i]), i + 1);
+            Check.due("all bridges, in turn", x.judge(), -4);
         });
         Sentences.holds(26, "BAD (also alike)", () -> {
             SeesawPairs x = Check.told(TWO);
@@ -120,6 +124,11 @@ public final class BoundsDaysTest {
             int[] their = {1, 1, 3, 4};
             for (int p = 0; p < 4; p++) Check.due("late of eight " + p, other.late(p), their[p]);
             Check.due("nobody went", other.rule(4), 0);
+            SeesawPairs less = Check.told(three + "meet 0 0 1;meet 0 1 0;meet 0 0 2;");
+            less.forget(1);
+            Check.due("what is forgotten does not cross", less.late(2), 1);
+            less.forget(0);
+            Check.due("nothing is left", less.late(2), 0);
         });
         Sentences.holds(29, "BAD.", () -> {
             Check.bounds("late of two", 0, 1, Check.told(TWO + "meet 0 0 1;")::late);

@@ -148,6 +148,9 @@ public final class BoundsErrandsTest {
             SeesawPairs three = Check.told(MANY);
             for (int p = 0; p < 6; p++) Check.due("worth of three " + p, three.worth(0, p), 1);
             Check.due("they are as they were", three.errands(0, 0), 3);
+            SeesawPairs heavier = Check.told("heap 0 9;heap 1 9;stone 4;bridge 0 1 0;one plain 5 0 1;one plain 9 1 0;");
+            Check.due("by a stone there would be one pair", heavier.heaved(0, 0), 1);
+            for (int p = 0; p < 2; p++) Check.due("but errands have no stones " + p, heavier.worth(0, p), 0);
         });
         Sentences.holds(21, "BAD.", () -> {
             SeesawPairs x = Check.told(MANY);
@@ -186,6 +189,13 @@ public final class BoundsErrandsTest {
             // an exile does not come to bank 0
             hire(Check.told("bridge 1 0 3;one exile 50 1 0;"), 1, 1, 0);
             hire(Check.told("bridge 0 1 3;one exile 50 0 1;"), 1, 47, 1);
+            // with whom he would cross must have an errand himself
+            for (String other : new String[] {"1 1", "1 2", "2 0", "0 0", "0 1"}) {
+                hire(Check.told("banks 3;bridge 0 1 3;one plain 50 " + other + ";"), 0, 1, 0);
+            }
+            for (String other : new String[] {"0 0", "0 2", "2 1", "1 1", "1 0"}) {
+                hire(Check.told("banks 3;bridge 0 1 3;one plain 50 " + other + ";"), 1, 1, 0);
+            }
         });
         Sentences.holds(22, "by which there are most PAIRS of ERRANDS, of several the least (what 0), how many then (1).", () -> {
             hire(Check.told("bridge 0 1 9;"), 0, 1, 0);
@@ -197,6 +207,10 @@ public final class BoundsErrandsTest {
             // 50 goes with 51 alone: he who comes for 51 would leave 50 alone, so he must come for 60
             x = Check.told("bridge 0 1 1;one plain 50 0 1;one plain 51 1 0;one plain 60 1 0;");
             hire(x, 0, 59, 2);
+            // by a stone 10 and 14 would go: but errands have none, so he comes for the one or the other
+            x = Check.told("heap 0 9;heap 1 9;stone 4;bridge 0 1 0;one plain 10 0 1;one plain 14 1 0;");
+            hire(x, 0, 14, 1);
+            hire(x, 1, 10, 1);
         });
         Sentences.holds(22, "BAD.", () -> {
             SeesawPairs x = Check.told(MANY);

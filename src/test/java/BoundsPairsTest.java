@@ -315,6 +315,9 @@ public final class BoundsPairsTest {
             Check.due("none", x.fellows(0, 5), 0);
             x.send(0, 1, 0);
             Check.due("nobody is on the other bank", x.fellows(0, 0), 0);
+            SeesawPairs alone = Check.told("bridge 1 0 9;bridge 0 1 9;one plain 1 1 0;");
+            Check.due("alone, from the first bank", alone.fellows(0, 0), 0);
+            Check.due("alone, from the second bank", alone.fellows(1, 0), 0);
         });
         Sentences.holds(18, "BAD;", () -> {
             SeesawPairs x = Check.told("banks 3;" + TWO + "one plain 5 2 2;");

@@ -128,6 +128,27 @@ public final class BoundsSheetsTest {
                 Check.due("the last cell, too: one and himself", x.read(1, lane, 37, 1), -20);
             }
         });
+        Sentences.holds(34, "A SHEET is a new row", () -> {
+            for (int anew = 0; anew < 4; anew++) {
+                SeesawPairs x = Check.told("bridge 0 1 0;bridge 0 1 9;one plain 5 0 1;one plain 6 1 0;");
+                for (int k = 0; k < 4; k++) {
+                    x.sheet(k, 0, 40);
+                    x.lay(k, 0, 1);
+                    x.lay(k, 2, 1);
+                    x.lay(k, 37, 1);
+                    x.lay(k, 39, 1);
+                }
+                x.sheet(anew, 0, 40);
+                for (int k = 0; k < 4; k++) {
+                    // by bridge 1 they can, by bridge 0 they can not, and himself nobody can
+                    for (int f : new int[] {0, 37}) {
+                        Check.due("sheet " + k + " from " + f + ", where " + anew + " is new", x.read(k, 0, f, 1), k == anew ? -20 : 1);
+                        x.send(0, 0, 1);
+                        x.send(1, 1, 0);
+                    }
+                }
+            }
+        });
         Sentences.holds(34, "BAD: also n above 40", () -> {
             SeesawPairs x = new SeesawPairs();
             Check.due("one of 3", x.sheet(0, 2, 3), 1);

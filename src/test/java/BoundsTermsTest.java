@@ -182,6 +182,9 @@ public final class BoundsTermsTest {
             Check.due("the most that can be", x.judge(), -4);
             Check.tell(x, start + "meet 3 5 0;");
             Check.due("that from its second bank ahead", x.judge(), 0);
+            String other = "banks 4;bridge 0 1 9;bridge 1 2 9;bridge 2 3 9;bridge 3 0 9;" + "one plain 5 0 0;one plain 5 1 0;one plain 5 2 0;one plain 5 3 0;";
+            Check.tell(x, other + "meet 0 0 1;meet 1 0 2;meet 2 0 3;meet 3 0 1;meet 0 0 2;meet 1 0 3;meet 2 0 1;meet 3 0 2;");
+            Check.due("all bridges, in turn", x.judge(), -4);
             Check.refused(start + "meet 4 0 5;", 3, start.length() + 5);
             Check.refused(start + "meet 0 6 5;", 3, start.length() + 7);
             Check.refused(start + "meet 0 5 6;", 3, start.length() + 9);
@@ -209,6 +212,12 @@ public final class BoundsTermsTest {
             for (int end : ends) Check.refused(whole.substring(0, end), 2, end);
             for (int end : ends) Check.refused(whole.substring(0, end) + "  ", 2, end + 2);
             Check.refused("banks 3;heap", 2, 12);
+            for (String word : new String[] {"banks 2;", "stone 3;", "heap 0 1;", "bridge 0 1 1;", "one plain 1 0 0;", "meet 0 0 1;"}) {
+                otherLetters(word, 0, word.indexOf(' '));
+            }
+            for (String kind : new String[] {"plain", "exile", "carrier", "child", "stout"}) {
+                otherLetters("one " + kind + " 1 0 0;", 4, 4 + kind.length());
+            }
         });
         Sentences.holds(0, "2 a TOKEN that can not stand there", () -> {
             Check.refused("7;", 2, 0);
@@ -261,6 +270,13 @@ public final class BoundsTermsTest {
         });
     }
 
+    /** With another letter in each of the places, and with the last one left out, it is no NAME of a line, no K. */
+    private static void otherLetters(String line, int from, int to) {
+        for (int at = from; at < to; at++) Check.refused(line.substring(0, at) + "z" + line.substring(at + 1), 2, from);
+        Check.refused(line.substring(0, to - 1) + line.substring(to), 2, from);
+        Check.refused(line.substring(0, to) + "s" + line.substring(to), 2, from);
+    }
+
     private static void missing() {
         String[] banks = {"heap 2 1;", "heap 3 1;", "bridge 2 0 1;", "bridge 0 2 1;", "one plain 1 2 0;", "one plain 1 0 2;"};
         for (String text : banks) {
@@ -299,6 +315,20 @@ public final class BoundsTermsTest {
             Check.due("nobody", x.one(0, 0), -1);
             Check.tell(x, "banks 4;");
             for (int bank = 0; bank < 4; bank++) Check.due("no stones on " + bank, x.stones(bank), 0);
+        });
+        Sentences.holds(0, "in place of what there was", () -> {
+            String[] longer = {"bridge 0 1 9;".repeat(4) + "one plain 5 0 1;one plain 5 1 0;".repeat(3) + "meet 0 0 1;".repeat(8),
+                "banks 4;heap 3 9;bridge 3 2 9;bridge 2 3 9;" + "one plain 5 3 2;one stout 5 2 3;".repeat(3) + "meet 1 3 2;".repeat(8)};
+            String[] shorter = {"", "bridge 0 1 9;", "one plain 5 0 1;", "bridge 0 1 9;one plain 5 0 1;", "bridge 1 0 9;one plain 5 0 1;",
+                "one plain 5 0 1;one plain 5 1 0;", "banks 4;bridge 2 3 9;one plain 5 2 3;", "bridge 0 1 9;one plain 5 0 1;one plain 5 1 0;meet 0 0 1;"};
+            for (String before : longer) {
+                for (String text : shorter) {
+                    SeesawPairs x = Check.told(before);
+                    Check.due("taken: " + text, Check.tell(x, text), Check.tell(new SeesawPairs(), text));
+                    boolean alike = Answers.of(x).equals(Answers.of(Check.told(text)));
+                    Check.due("as if it were all that was ever told: " + text, alike ? 1 : 0, 1);
+                }
+            }
         });
     }
 

@@ -59,13 +59,13 @@ public final class ModelTest {
     }
 
     private boolean call(Method m) throws Exception {
-        int people = x.rule(2), bridges = x.rule(1), banks = x.rule(0);
+        int people = model.rule(2), bridges = model.rule(1), banks = model.rule(0);
         int b = pick(bridges), p = pick(people), q = pick(people);
         switch (m.getName()) {
             // a text of nothing would leave nothing to ask
             case "text": return random.nextInt(30) != 0 || same(m);
             case "feed": return same(m, random.nextLong());
-            case "end": return same(m, pick(x.count(3) + 1));
+            case "end": return same(m, pick(model.count(3) + 1));
             case "rule": return same(m, pick(5));
             case "bridge": return same(m, b, pick(3));
             case "one": return same(m, p, pick(4));
@@ -84,7 +84,7 @@ public final class ModelTest {
             case "plan": return same(m, what(1, 5));
             case "reach": case "late": return same(m, p);
             case "tell": return same(m, b, p, q);
-            case "forget": return same(m, pick(x.count(1) + 1));
+            case "forget": return same(m, pick(model.count(1) + 1));
             case "fits": return same(m, pick(2), pick(5), what(1, 3));
             case "season": return same(m, random.nextInt(), 1 + pick(100), pick(2));
             case "keep": case "back": return same(m, pick(2));
@@ -97,16 +97,16 @@ public final class ModelTest {
     }
 
     private int nearWeight() {
-        return x.rule(2) > 0 ? x.one(random.nextInt(x.rule(2)), 1) + random.nextInt(7) - 3 : pick(100);
+        return model.rule(2) > 0 ? model.one(random.nextInt(model.rule(2)), 1) + random.nextInt(7) - 3 : pick(100);
     }
 
     /** Mostly one that can be. */
     private Object[] crossing() {
-        int people = x.rule(2), bridges = x.rule(1);
+        int people = model.rule(2), bridges = model.rule(1);
         int i = random.nextInt(3) == 0 ? pick(4) : 0, j = random.nextInt(3) == 0 ? pick(4) : 0;
         for (int turn = 0; turn < 30 && people > 1 && bridges > 0; turn++) {
             int b = random.nextInt(bridges), p = random.nextInt(people), q = random.nextInt(people);
-            if (x.can(b, p, q, i, j) == 1) return new Object[] {b, p, q, i, j};
+            if (model.can(b, p, q, i, j) == 1) return new Object[] {b, p, q, i, j};
         }
         return new Object[] {pick(bridges), pick(people), pick(people), i, j};
     }
@@ -115,9 +115,9 @@ public final class ModelTest {
     private boolean layPlan() throws Exception {
         int k = random.nextInt(4), lane = random.nextInt(3);
         if (!same(method("sheet", int.class, int.class, int.class), k, lane, 40)) return false;
-        int n = Math.min(13, Math.max(0, x.plan(0)));
+        int n = Math.min(13, Math.max(0, model.plan(0)));
         for (int i = 0; i < n; i++) {
-            int step = x.plan(10 + i);
+            int step = model.plan(10 + i);
             int[] cells = {step / 100, step / 10 % 10, step % 10};
             for (int c = 0; c < 3; c++) {
                 if (!same(method("lay", int.class, int.class, int.class), k, 3 * i + c, cells[c])) return false;
