@@ -145,9 +145,20 @@ public final class BoundsErrandsTest {
             for (int p = 0; p < 4; p++) Check.due("worth " + p, x.worth(0, p), due[p]);
             x.send(2, 1, 1);
             Check.due("the only one now", x.worth(0, 1), 1);
-            SeesawPairs three = Check.told(MANY);
-            for (int p = 0; p < 6; p++) Check.due("worth of three " + p, three.worth(0, p), 1);
-            Check.due("they are as they were", three.errands(0, 0), 3);
+            SeesawPairs many = Check.told(MANY);
+            for (int p = 0; p < 6; p++) Check.due("worth of three " + p, many.worth(0, p), 1);
+            Check.due("they are as they were", many.errands(0, 0), 3);
+            // two could go with the only other one: without the one the other one goes, wherever they come in the order
+            for (int alone = 0; alone < 3; alone++) {
+                StringBuilder text = new StringBuilder("bridge 0 1 9;");
+                for (int p = 0; p < 3; p++) text.append(p == alone ? "one plain 5 1 0;" : "one plain 5 0 1;");
+                SeesawPairs three = Check.told(text.toString());
+                SeesawPairs turned = Check.told(text.toString().replace("bridge 0 1", "bridge 1 0"));
+                for (int p = 0; p < 3; p++) {
+                    Check.due("worth of " + p + ", " + alone + " is alone", three.worth(0, p), p == alone ? 1 : 0);
+                    Check.due("worth of " + p + ", " + alone + " is alone, on the first bank", turned.worth(0, p), p == alone ? 1 : 0);
+                }
+            }
             SeesawPairs heavier = Check.told("heap 0 9;heap 1 9;stone 4;bridge 0 1 0;one plain 5 0 1;one plain 9 1 0;");
             Check.due("by a stone there would be one pair", heavier.heaved(0, 0), 1);
             for (int p = 0; p < 2; p++) Check.due("but errands have no stones " + p, heavier.worth(0, p), 0);

@@ -6,6 +6,8 @@ import java.nio.file.Path;
 import java.util.ArrayList;
 import java.util.Arrays;
 import java.util.List;
+import java.util.Map;
+import java.util.TreeMap;
 import java.util.TreeSet;
 import java.util.regex.Matcher;
 import java.util.regex.Pattern;
@@ -23,6 +25,7 @@ public final class LanguageTest {
         String source = Files.readString(Path.of("src/main/java/SeesawPairs.java"));
         words(withoutComments(source));
         sizes(withoutComments(source));
+        depths(withoutComments(source));
         Check.finish();
     }
 
@@ -79,13 +82,41 @@ public final class LanguageTest {
         }
     }
 
-    /** Methods of some sixty lines, with seven parameters at most; rows are looked at by at() and put() alone. */
+    private static final Pattern HEAD = Pattern.compile("^( {4}| {8})(?:[\\w\\[\\]]+ )+(\\w+)\\(([^)]*)\\) \\{$");
+
+    /** Calls that are no recursion go eight deep at most, the public one among them; methods of one name are taken as one. */
+    private static void depths(String code) {
+        Map<String, String> bodies = new TreeMap<>();
+        String[] lines = code.split("\n");
+        for (int i = 0; i < lines.length; i++) {
+            Matcher m = HEAD.matcher(lines[i]);
+            if (!m.find()) continue;
+            StringBuilder body = new StringBuilder();
+            for (int at = i + 1; at < lines.length && !lines[at].equals(m.group(1) + "}"); at++) body.append(lines[at]).append('\n');
+            bodies.merge(m.group(2), body.toString(), String::concat);
+        }
+        for (String name : bodies.keySet()) {
+            int depth = depth(name, bodies, 0);
+            Check.due("calls below " + name + " are " + depth + " deep", depth <= 8 ? 1 : 0, 1);
+        }
+    }
+
+    private static int depth(String name, Map<String, String> bodies, int above) {
+        int below = 0;
+        Matcher call = Pattern.compile("\\b(\\w+)\\(").matcher(bodies.get(name));
+        while (call.find() && above < 20) {
+            String other = call.group(1);
+            if (bodies.containsKey(other) && !other.equals(name)) below = Math.max(below, depth(other, bodies, above + 1));
+        }
+        return below + 1;
+    }
+
+    /** Methods of some sixty lines, with seven parameters at most. */
     private static void sizes(String code) {
         String[] lines = code.split("\n");
-        Pattern head = Pattern.compile("^( {4}| {8})(?:[\\w\\[\\]]+ )+(\\w+)\\(([^)]*)\\) \\{$");
         int methods = 0;
         for (int i = 0; i < lines.length; i++) {
-            Matcher m = head.matcher(lines[i]);
+            Matcher m = HEAD.matcher(lines[i]);
             if (!m.find()) continue;
             methods++;
             int end = i;
