@@ -15,6 +15,12 @@ public final class BoundsTermsTest {
     }
 
     private static void whatThereIs() {
+        Sentences.holds(0, "public static final int BAD = -1, STATE = -2, FULL = -3, NONE = -4;", () -> {
+            Check.due("BAD", SeesawPairs.BAD, -1);
+            Check.due("STATE", SeesawPairs.STATE, -2);
+            Check.due("FULL", SeesawPairs.FULL, -3);
+            Check.due("NONE", SeesawPairs.NONE, -4);
+        });
         Sentences.holds(0, "BANKS 0 on (2 to 4; 2)", BoundsTermsTest::banks);
         Sentences.holds(0, "each with STONES (0 to 20; 0)", BoundsTermsTest::stones);
         Sentences.holds(0, "BRIDGES (4 at most), by order", BoundsTermsTest::bridges);
