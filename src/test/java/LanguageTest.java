@@ -96,6 +96,7 @@ public final class LanguageTest {
             bodies.merge(m.group(2), body.toString(), String::concat);
         }
         for (String name : bodies.keySet()) {
+            makesNothing(name, bodies.get(name));
             int depth = depth(name, bodies, 0);
             Check.due("calls below " + name + " are " + depth + " deep", depth <= 8 ? 1 : 0, 1);
         }
@@ -109,6 +110,11 @@ public final class LanguageTest {
             if (bodies.containsKey(other) && !other.equals(name)) below = Math.max(below, depth(other, bodies, above + 1));
         }
         return below + 1;
+    }
+
+    /** Objects and rows are made with the object alone: no call makes one, so that all calls of a run find room. */
+    private static void makesNothing(String name, String body) {
+        Check.due(name + " makes an object", Pattern.compile("\\bnew\\b|\\bclone\\(|copyOf").matcher(body).find() ? 1 : 0, 0);
     }
 
     /** Methods of some sixty lines, with seven parameters at most. */
