@@ -1,4 +1,5 @@
 import java.lang.reflect.Method;
+import java.lang.reflect.Modifier;
 import java.nio.file.Files;
 import java.nio.file.Path;
 import java.util.TreeSet;
@@ -20,6 +21,10 @@ public final class ReadmeTest {
             Check.due(line.group(), got, Integer.parseInt(line.group(4)));
         }
         Check.due("calls were found", calls > 30 ? 1 : 0, 1);
+        for (Method m : SeesawPairs.class.getDeclaredMethods()) {
+            if (!Modifier.isPublic(m.getModifiers())) continue;
+            Check.due(m.getName() + "() is shown", page.contains("x." + m.getName() + "(") ? 1 : 0, 1);
+        }
         Check.due("none was overlooked", calls, page.split("(?m)^(x\\.|told\\(x)", -1).length - 1);
         names(page);
         String source = Files.readString(Path.of("src/test/java/ReadmeTest.java"));
