@@ -1,6 +1,6 @@
 import java.nio.charset.StandardCharsets;
 
-/** What each call does, by ordinary runs whose answers were found by hand: promises 1 to 38. */
+/** What each call does, by ordinary runs: promises 1 to 38. */
 public final class OrdinaryCallsTest {
     public static void main(String[] args) {
         promises1To5();

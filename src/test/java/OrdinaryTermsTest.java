@@ -1,4 +1,4 @@
-/** The sentences of "Terms" (here promise 0) that name no boundary, by ordinary runs whose answers were found by hand. */
+/** The sentences of "Terms" (here promise 0) that name no boundary, by ordinary runs; seasons are compared with the same crossings made by cross(). */
 public final class OrdinaryTermsTest {
     public static void main(String[] args) {
         whatThereIs();
